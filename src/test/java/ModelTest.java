@@ -31,7 +31,9 @@ public final class ModelTest {
     }
 
     private void play(int run) {
-        if (run % 5 != 0) {
+        if (run % 40 == 0) {
+            fillText();
+        } else if (run % 5 != 0) {
             writeRow();
         }
         while (calls < CALLS) {
@@ -70,6 +72,14 @@ public final class ModelTest {
         same("lay");
     }
 
+    private void fillText() {
+        for (int i = 0; i < 203; i++) {
+            same("write", edgeOr(97, 122));
+        }
+        same("fault");
+        same("lay");
+    }
+
     private void lookAtAll() {
         int records = model.count(0);
         for (int what = 0; what < 12; what++) {
@@ -84,10 +94,10 @@ public final class ModelTest {
         for (int i = 0; i <= model.run(-1, 0); i++) {
             same("run", i, random.nextInt(3));
         }
-        for (int i = 0; i < records; i++) {
-            if (real.at(i, 1) != model.at(i, 1) || real.at(i, 0) != model.at(i, 0)) {
-                differs("the row at " + i, real.at(i, 1), model.at(i, 1));
-                return;
+        if (random.nextInt(5) == 0) {
+            for (int i = 0; i < records; i++) {
+                same("at", i, 0);
+                same("at", i, 1);
             }
         }
     }

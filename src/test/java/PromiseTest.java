@@ -656,9 +656,11 @@ public final class PromiseTest {
         for (int[] bad : bads) {
             due("less(" + bad[0] + ", " + bad[1] + ")", x.less(bad[0], bad[1]), BAD);
         }
+        due("cost(0)", x.cost(0), 0);
         for (int order = 0; order < 4; order++) {
-            x.rule(0, order);
             for (int a = 0; a < 26; a++) {
+                x = new RunSorter();
+                x.rule(0, order);
                 for (int b = 0; b < 26; b++) {
                     boolean vowelFirst = "aeiou".indexOf('a' + a) >= 0 && "aeiou".indexOf('a' + b) < 0;
                     boolean[] answers = {a < b, a > b, a % 5 < b % 5, vowelFirst};
