@@ -17,6 +17,9 @@ public final class LanguageTest {
     private static final String RULED_OUT = "\\b(throw|throws|try|catch|synchronized|assert|protected|package|"
             + "Object|System\\.(?!arraycopy)\\w+|\\w+Exact)\\b|->|::|@";
 
+    private static final Set<String> STATIC_TYPES = Set.of(
+            "int", "long", "boolean", "char", "String", "int[]", "long[]", "char[]", "byte[]");
+
     private static int wrong = 0;
 
     public static void main(String[] args) throws Exception {
@@ -75,17 +78,39 @@ public final class LanguageTest {
             say("more than twelve classes");
         }
         for (Class<?> c : inside) {
-            if (!Modifier.isStatic(c.getModifiers())) {
-                say("not static: " + c);
+            if (!Modifier.isStatic(c.getModifiers()) || Modifier.isPublic(c.getModifiers())) {
+                say("not static, or public: " + c);
             }
-            for (Method m : c.getDeclaredMethods()) {
-                if ((" " + FACE).contains(" " + m.getName() + "(")) {
-                    say("bears the name of a public one: " + m);
-                }
-                if (m.getParameterCount() > 7) {
-                    say("more than seven parameters: " + m);
-                }
+            fields(c);
+            methods(c);
+        }
+        fields(RunSorter.class);
+        methods(RunSorter.class);
+    }
+
+    private static void methods(Class<?> c) {
+        for (Method m : c.getDeclaredMethods()) {
+            boolean ofTheFace = Modifier.isPublic(m.getModifiers());
+            if (!ofTheFace && (" " + FACE).contains(" " + m.getName() + "(")) {
+                say("bears the name of a public one: " + m);
             }
+            if (m.getParameterCount() > 7) {
+                say("more than seven parameters: " + m);
+            }
+        }
+    }
+
+    private static void fields(Class<?> c) {
+        int own = 0;
+        for (Field f : c.getDeclaredFields()) {
+            if (!Modifier.isStatic(f.getModifiers())) {
+                own++;
+            } else if (!Modifier.isFinal(f.getModifiers()) || !STATIC_TYPES.contains(f.getType().getSimpleName())) {
+                say("static, and no constant: " + f);
+            }
+        }
+        if (own > 20) {
+            say("more than twenty fields: " + c);
         }
     }
 
